@@ -987,20 +987,22 @@ public final class DownhillPost {
             }
             for (int middle = 0; middle < villages; middle++) {
                 for (int from = 0; from < villages; from++) {
-                    int there = downs[from * MOST_VILLAGES + middle];
-                    if (there < NEVER) {
-                        shortenBy(middle, from, there);
+                    if (downs[from * MOST_VILLAGES + middle] < NEVER) {
+                        shortenBy(middle, from);
                     }
                 }
             }
         }
 
-        private void shortenBy(int middle, int from, int there) {
+        private void shortenBy(int middle, int from) {
+            if (!areHere(from, middle)) {
+                return;
+            }
+            int fromRow = from * MOST_VILLAGES;
+            int middleRow = middle * MOST_VILLAGES;
+            int there = downs[fromRow + middle];
             for (int to = 0; to < villages; to++) {
-                int days = there + downDays(middle, to);
-                if (days < downDays(from, to)) {
-                    downs[from * MOST_VILLAGES + to] = days;
-                }
+                downs[fromRow + to] = Math.min(downs[fromRow + to], there + downs[middleRow + to]);
             }
         }
 

@@ -94,6 +94,16 @@ public final class PromisesTest {
         promise44to46();
         promise47();
         promise48();
+        readme();
+    }
+
+    private static void readme() {
+        DownhillPost post = heights(900, 500, 0);
+        post.road(0, 1, 3);
+        post.road(1, 2, 2);
+        due("readme", post.least(0, 1, 0), 8);
+        post.send(0, 1, 0);
+        due("readme", post.days(8), 1);
     }
 
     /** Five villages, 0 the peak, 4 the sea, 1 and 2 of the same height; the valley 3 has two roads from above. */
@@ -413,6 +423,7 @@ public final class PromisesTest {
         level.road(1, 2, 2);
         due("18 in the middle", level.live(FEATHER, 0b101), 1);
         due("18 the least of several", level.live(FEATHER, 0b110), 1);
+        due("18 in 0", level.live(FEATHER, 0b001), 0);
         due("18 no villages", new DownhillPost().live(LETTER, 1), BEYOND);
     }
 
@@ -495,6 +506,7 @@ public final class PromisesTest {
         due("23 the balloon's, too", most.dig(LETTER, 1), 4);
         most.hermit(2, true);
         due("23 no bill", most.dig(BILL, 0), 1);
+        due("23 next to 0", heights(2, 9, 3).dig(SECRET, 1), 0);
         due("23 nothing changes", most.count(1), 1);
         DownhillPost full = heights(9, 8, 7, 6, 5, 4, 3, 2, 1, 0, 0, 0);
         for (int one = 0; one < 10; one++) {
@@ -744,6 +756,13 @@ public final class PromisesTest {
         due("day: the least village", x.next(0), 1);
         x.slide(1, 9);
         due("day: what a slide changes", x.next(0), 2);
+        DownhillPost by0 = heights(5, 9, 5, 0);
+        by0.road(1, 2, 1);
+        by0.road(1, 0, 1);
+        by0.road(2, 3, 1);
+        by0.road(0, 3, 1);
+        by0.send(LETTER, 1, 3);
+        due("day: 0 is the least", by0.next(0), 0);
         // On the level a feather goes for a walk while it waits, as it comes by that just as early.
         DownhillPost level = heights(0, 0, 9);
         level.road(0, 1, 1);
@@ -855,6 +874,8 @@ public final class PromisesTest {
             "road 0 to", "road 0", "road to", "road 0 days", "slide 3 5", "slide 0", "slide 0 10000", "slide 0 to 5",
             "every 0", "every 100", "every", "every x", "letter 3 to 0", "letter 0 to 3", "letter 0 0", "letter 0 to",
             "quick 0 to 1 days 2", "post 0 to 1", "12", "every 5;;every 6", "every 5 every 6", "\377", "every 5;\0",
+            "every 5\0", "villagez 5", "road", "road;", "road 0;", "road 0 to;", "road 0 to 2 days;", "slide", "slide;",
+            "slide 0;", "quick", "quick;", "quick 0;", "quick 0 to;", "every;", "village;", "village;village 5",
         };
         int[] places = {
             0, 0, 7, 10, 13, 0, 8,
@@ -865,6 +886,8 @@ public final class PromisesTest {
             9, 6, 5, 7, 6, 7, 8, 8,
             6, 6, 5, 6, 7, 12, 9, 11,
             13, 0, 0, 8, 8, 0, 8,
+            7, 0, 4, 4, 6, 9, 16, 5, 5,
+            7, 5, 5, 7, 10, 5, 7, 7,
         };
         due("text faults", texts.length, places.length);
         for (int i = 0; i < texts.length && i < places.length; i++) {
@@ -962,6 +985,8 @@ public final class PromisesTest {
         due("40 over itself", x.copy(0, 0, 0, 1, 4), 4);
         due("40 as they were", x.write(0, 4, 4), 4);
         due("40 as they were", x.write(0, 2, 2), 2);
+        due("40 all of it", x.copy(1, 0, 0, 2, 3), 3);
+        due("40 one too many", x.copy(1, 0, 0, 0, 4), BEYOND);
         due("40 none", x.copy(0, 5, 1, 3, 0), 0);
         due("40 none beyond", x.copy(0, 6, 1, 3, 0), BEYOND);
         due("40 source", x.copy(0, 4, 1, 0, 2), BEYOND);
