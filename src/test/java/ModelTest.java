@@ -107,6 +107,10 @@ public final class ModelTest {
     }
 
     private void both(String name, Object... values) throws ReflectiveOperationException {
+        // What an object answers after its 512th call is free.
+        if (calls >= 512) {
+            return;
+        }
         long want;
         try {
             want = ((Number) ofModel.get(name).invoke(model, values)).longValue();

@@ -7,12 +7,12 @@ public final class PromisesTest {
     private static final long STATE = Due.STATE;
     private static final long MISSING = Due.MISSING;
     private static final long SIZE = Due.SIZE;
-    private static final int LETTER = 0;
-    private static final int QUICK = 1;
-    private static final int HEAVY = 2;
-    private static final int FEATHER = 3;
-    private static final int BILL = 4;
-    private static final int SECRET = 5;
+    private static final int LETTER = Lands.LETTER;
+    private static final int QUICK = Lands.QUICK;
+    private static final int HEAVY = Lands.HEAVY;
+    private static final int FEATHER = Lands.FEATHER;
+    private static final int BILL = Lands.BILL;
+    private static final int SECRET = Lands.SECRET;
     private static final int MIN = Integer.MIN_VALUE;
     private static final int MAX = Integer.MAX_VALUE;
 
@@ -98,48 +98,12 @@ public final class PromisesTest {
     }
 
     private static void readme() {
-        DownhillPost post = heights(900, 500, 0);
+        DownhillPost post = Lands.heights(900, 500, 0);
         post.road(0, 1, 3);
         post.road(1, 2, 2);
         due("readme", post.least(0, 1, 0), 8);
         post.send(0, 1, 0);
         due("readme", post.days(8), 1);
-    }
-
-    /** Five villages, 0 the peak, 4 the sea, 1 and 2 of the same height; the valley 3 has two roads from above. */
-    private static DownhillPost land() {
-        DownhillPost x = new DownhillPost();
-        x.village(900);
-        x.village(500);
-        x.village(500);
-        x.village(100);
-        x.village(0);
-        x.road(0, 1, 3);
-        x.road(1, 2, 2);
-        x.road(2, 3, 4);
-        x.road(3, 4, 1);
-        x.road(0, 3, 9);
-        return x;
-    }
-
-    /** Villages of these heights, no roads. */
-    private static DownhillPost heights(int... heights) {
-        DownhillPost x = new DownhillPost();
-        for (int height : heights) {
-            x.village(height);
-        }
-        return x;
-    }
-
-    private static void feed(DownhillPost x, String text) {
-        for (int i = 0; i < text.length(); i++) {
-            x.feed(text.charAt(i), 1);
-        }
-    }
-
-    private static int text(DownhillPost x, String text) {
-        feed(x, text);
-        return x.text();
     }
 
     private static void promise1() {
@@ -172,7 +136,7 @@ public final class PromisesTest {
     }
 
     private static void promise3() {
-        DownhillPost x = land();
+        DownhillPost x = Lands.five();
         due("3 height", x.villageOf(1, 0), 500);
         due("3 hermit", x.villageOf(3, 1), 0);
         x.hermit(3, true);
@@ -198,7 +162,7 @@ public final class PromisesTest {
     }
 
     private static void promise4() {
-        DownhillPost x = land();
+        DownhillPost x = Lands.five();
         due("4", x.slide(1, 9999), 500);
         due("4", x.slide(1, 0), 9999);
         due("4 is", x.villageOf(1, 0), 0);
@@ -211,7 +175,7 @@ public final class PromisesTest {
     }
 
     private static void promise5() {
-        DownhillPost x = land();
+        DownhillPost x = Lands.five();
         due("5 new", x.hermit(2, true), 1);
         due("5 old", x.hermit(2, true), 0);
         due("5 off", x.hermit(2, false), 1);
@@ -223,7 +187,7 @@ public final class PromisesTest {
     }
 
     private static void promise6() {
-        DownhillPost x = heights(1, 2, 3, 4, 5, 6, 7, 8, 9, 10, 11, 12);
+        DownhillPost x = Lands.heights(1, 2, 3, 4, 5, 6, 7, 8, 9, 10, 11, 12);
         due("6", x.road(0, 1, 1), 0);
         due("6", x.road(2, 1, 9), 1);
         due("6 the same two", x.road(1, 0, 2), STATE);
@@ -246,7 +210,7 @@ public final class PromisesTest {
     }
 
     private static void promise7() {
-        DownhillPost x = heights(1, 2, 3);
+        DownhillPost x = Lands.heights(1, 2, 3);
         x.road(2, 0, 9);
         x.road(0, 1, 4);
         due("7 one", x.roadOf(0, 0), 2);
@@ -286,7 +250,7 @@ public final class PromisesTest {
     }
 
     private static void promise11() {
-        DownhillPost x = heights(5, 4, 3);
+        DownhillPost x = Lands.heights(5, 4, 3);
         x.road(0, 1, 5);
         x.road(1, 2, 4);
         int[] of5 = {5, 3, 10, 6, 10, 6};
@@ -302,7 +266,7 @@ public final class PromisesTest {
     }
 
     private static void promise12() {
-        DownhillPost x = heights(5, 4, 4);
+        DownhillPost x = Lands.heights(5, 4, 4);
         x.road(0, 1, 5);
         x.road(1, 2, 4);
         x.hermit(1, true);
@@ -324,7 +288,7 @@ public final class PromisesTest {
     }
 
     private static void promise13() {
-        DownhillPost x = land();
+        DownhillPost x = Lands.five();
         due("13 itself", x.least(SECRET, 4, 4), 0);
         due("13 by the short road", x.least(LETTER, 0, 3), 9);
         due("13 bill twice", x.least(BILL, 0, 3), 18);
@@ -349,21 +313,11 @@ public final class PromisesTest {
         due("13 kind", x.least(6, 0, 0), BEYOND);
         due("13 from", x.least(0, 5, 0), BEYOND);
         due("13 to", x.least(0, 0, -1), BEYOND);
-        due("13 balloon rather than the long road", balloonRather().least(LETTER, 1, 2), 3);
-    }
-
-    /** From 1 to 2 by road in 9 days, by the sea (3) and the peak (0) sooner, if the balloon goes. */
-    private static DownhillPost balloonRather() {
-        DownhillPost x = heights(900, 500, 300, 0);
-        x.road(1, 2, 9);
-        x.road(1, 3, 1);
-        x.road(0, 2, 1);
-        x.every(1);
-        return x;
+        due("13 balloon rather than the long road", Lands.balloonRather().least(LETTER, 1, 2), 3);
     }
 
     private static void promise14to16() {
-        DownhillPost x = land();
+        DownhillPost x = Lands.five();
         due("14", x.reach(LETTER, 0), 0b11011);
         due("14 feather", x.reach(FEATHER, 4), 0b11111);
         due("14 secret", x.reach(SECRET, 4), 0b10000);
@@ -392,7 +346,7 @@ public final class PromisesTest {
     }
 
     private static void promise17() {
-        DownhillPost x = land();
+        DownhillPost x = Lands.five();
         due("17", x.round(LETTER, 0, 3), 15);
         due("17 other way", x.round(LETTER, 3, 0), 17);
         due("17 itself", x.round(SECRET, 2, 2), 0);
@@ -407,7 +361,7 @@ public final class PromisesTest {
     }
 
     private static void promise18() {
-        DownhillPost x = land();
+        DownhillPost x = Lands.five();
         due("18", x.live(LETTER, 0b11000), 4);
         due("18 one's own", x.live(LETTER, 0b00100), 2);
         due("18 nowhere", x.live(LETTER, 0b11111), NONE);
@@ -418,7 +372,7 @@ public final class PromisesTest {
         due("18 below 0", x.live(LETTER, MIN), BEYOND);
         due("18 all bits", x.live(LETTER, -1), BEYOND);
         due("18 kind", x.live(6, 1), BEYOND);
-        DownhillPost level = heights(4, 4, 4);
+        DownhillPost level = Lands.heights(4, 4, 4);
         level.road(0, 1, 2);
         level.road(1, 2, 2);
         due("18 in the middle", level.live(FEATHER, 0b101), 1);
@@ -429,7 +383,7 @@ public final class PromisesTest {
 
     private static void promise19() {
         due("19 no villages", new DownhillPost().quiet(LETTER), 0);
-        DownhillPost x = heights(1, 2, 3, 4);
+        DownhillPost x = Lands.heights(1, 2, 3, 4);
         // All four apart, but the balloon joins 0 to 3.
         due("19", x.quiet(LETTER), 5);
         due("19 secret", x.quiet(SECRET), 6);
@@ -440,7 +394,7 @@ public final class PromisesTest {
     }
 
     private static void promise20() {
-        DownhillPost x = land();
+        DownhillPost x = Lands.five();
         due("20 quick", x.kind(0, 4), QUICK);
         due("20 of several", x.kind(4, 0), LETTER);
         due("20 itself", x.kind(2, 2), LETTER);
@@ -448,13 +402,13 @@ public final class PromisesTest {
         due("20 of 1 day", x.kind(3, 4), LETTER);
         due("20 from", x.kind(5, 0), BEYOND);
         due("20 to", x.kind(0, -1), BEYOND);
-        DownhillPost apart = heights(3, 2, 1);
+        DownhillPost apart = Lands.heights(3, 2, 1);
         due("20 none", apart.kind(1, 0), NONE);
         due("20 balloon", apart.kind(2, 0), LETTER);
     }
 
     private static void promise21() {
-        DownhillPost x = land();
+        DownhillPost x = Lands.five();
         due("21 it can", x.rise(LETTER, 0, 4), 900);
         due("21 above 1", x.rise(LETTER, 2, 1), 501);
         due("21 feather", x.rise(FEATHER, 4, 3), 100);
@@ -481,7 +435,7 @@ public final class PromisesTest {
     }
 
     private static void promise22() {
-        DownhillPost x = land();
+        DownhillPost x = Lands.five();
         due("22", x.fall(LETTER, 0, 4), 900);
         due("22 level", x.fall(FEATHER, 1, 2), 0);
         due("22 itself", x.fall(BILL, 2, 2), 0);
@@ -493,22 +447,22 @@ public final class PromisesTest {
     }
 
     private static void promise23() {
-        DownhillPost x = land();
+        DownhillPost x = Lands.five();
         due("23 least of 3 and 4", x.dig(LETTER, 1), 3);
         due("23 secret to all below", x.dig(SECRET, 4), NONE);
         due("23 nothing more", x.dig(FEATHER, 0), NONE);
         due("23 to 2 alone", x.dig(LETTER, 0), 2);
         due("23 kind", x.dig(6, 0), BEYOND);
         due("23 from", x.dig(0, 5), BEYOND);
-        DownhillPost most = heights(9, 5, 6, 4, 0);
+        DownhillPost most = Lands.heights(9, 5, 6, 4, 0);
         most.road(2, 3, 1);
         due("23 most", most.dig(SECRET, 0), 2);
         due("23 the balloon's, too", most.dig(LETTER, 1), 4);
         most.hermit(2, true);
         due("23 no bill", most.dig(BILL, 0), 1);
-        due("23 next to 0", heights(2, 9, 3).dig(SECRET, 1), 0);
+        due("23 next to 0", Lands.heights(2, 9, 3).dig(SECRET, 1), 0);
         due("23 nothing changes", most.count(1), 1);
-        DownhillPost full = heights(9, 8, 7, 6, 5, 4, 3, 2, 1, 0, 0, 0);
+        DownhillPost full = Lands.heights(9, 8, 7, 6, 5, 4, 3, 2, 1, 0, 0, 0);
         for (int one = 0; one < 10; one++) {
             for (int other = one + 1; other < 10 && full.count(1) < 24; other++) {
                 full.road(one, other, 1);
@@ -519,7 +473,7 @@ public final class PromisesTest {
     }
 
     private static void promise24() {
-        DownhillPost x = land();
+        DownhillPost x = Lands.five();
         x.day(3);
         due("24", x.send(BILL, 0, 4), 0);
         due("24 to itself", x.send(SECRET, 2, 2), 1);
@@ -539,7 +493,7 @@ public final class PromisesTest {
     }
 
     private static void promise25() {
-        DownhillPost x = land();
+        DownhillPost x = Lands.five();
         x.day(3);
         x.send(HEAVY, 3, 4);
         int[] sent = {HEAVY, 3, 4, 3, 0, 0};
@@ -563,7 +517,7 @@ public final class PromisesTest {
     }
 
     private static void promise26() {
-        DownhillPost x = land();
+        DownhillPost x = Lands.five();
         x.send(SECRET, 4, 0);
         due("26", x.turn(0, LETTER), SECRET);
         due("26 the same", x.turn(0, LETTER), LETTER);
@@ -578,7 +532,7 @@ public final class PromisesTest {
     }
 
     private static void promise27() {
-        DownhillPost x = land();
+        DownhillPost x = Lands.five();
         String[] fits = {"100000", "110000", "101000", "100100", "101010", "100101"};
         for (int kind = 0; kind < 6; kind++) {
             x.send(kind, 0, 3);
@@ -592,7 +546,7 @@ public final class PromisesTest {
     }
 
     private static void promise28() {
-        DownhillPost x = land();
+        DownhillPost x = Lands.five();
         x.send(LETTER, 0, 4);
         x.send(LETTER, 4, 0);
         x.send(SECRET, 4, 0);
@@ -610,7 +564,7 @@ public final class PromisesTest {
     }
 
     private static void promise29() {
-        DownhillPost x = land();
+        DownhillPost x = Lands.five();
         x.send(LETTER, 3, 4);
         x.send(QUICK, 3, 4);
         x.send(HEAVY, 3, 4);
@@ -632,7 +586,7 @@ public final class PromisesTest {
     }
 
     private static void promise30() {
-        DownhillPost x = land();
+        DownhillPost x = Lands.five();
         x.send(LETTER, 0, 3);
         x.days(2);
         due("30", x.day(9999), 2);
@@ -645,7 +599,7 @@ public final class PromisesTest {
     }
 
     private static void promise31() {
-        DownhillPost x = land();
+        DownhillPost x = Lands.five();
         x.day(1);
         x.every(5);
         x.send(LETTER, 0, 3);
@@ -665,7 +619,7 @@ public final class PromisesTest {
     }
 
     private static void promise32() {
-        DownhillPost x = land();
+        DownhillPost x = Lands.five();
         x.send(LETTER, 3, 1);
         // Into 4 on 0, up on 7, into 1 on 8 to be there on 11.
         int[] days = {0, 1, 7, 8, 9, 11, 200};
@@ -685,7 +639,7 @@ public final class PromisesTest {
     }
 
     private static void promise33() {
-        DownhillPost x = land();
+        DownhillPost x = Lands.five();
         x.send(LETTER, 3, 1);
         x.send(LETTER, 1, 1);
         x.send(LETTER, 1, 2);
@@ -700,26 +654,12 @@ public final class PromisesTest {
         x.day(9800);
         due("33 too late", x.when(1), STATE);
         due("33 beyond ahead of state", x.when(3), BEYOND);
-        due("33 in 200 days", longWay(1).when(0), 200);
-        due("33 in 201 days", longWay(0).when(0), NONE);
-    }
-
-    /** A heavy letter ten roads of 18 days down to the sea; the balloon that it waits for is at the peak on 201. */
-    private static DownhillPost longWay(int day) {
-        DownhillPost x = heights(12, 11, 10, 9, 8, 7, 6, 5, 4, 3, 2, 1);
-        for (int i = 1; i < 11; i++) {
-            x.road(i, i + 1, 9);
-        }
-        x.every(50);
-        x.day(day);
-        x.send(HEAVY, 1, 0);
-        x.send(SECRET, 1, 0);
-        x.send(QUICK, 1, 11);
-        return x;
+        due("33 in 200 days", Lands.longWay(1).when(0), 200);
+        due("33 in 201 days", Lands.longWay(0).when(0), NONE);
     }
 
     private static void promise34() {
-        DownhillPost x = land();
+        DownhillPost x = Lands.five();
         x.send(LETTER, 3, 4);
         x.send(HEAVY, 3, 4);
         x.send(QUICK, 3, 4);
@@ -740,14 +680,14 @@ public final class PromisesTest {
         x.day(9800);
         due("34 too late", x.first(0, 1), STATE);
         due("34 beyond ahead of state", x.first(1, 1), BEYOND);
-        due("34 in 200 days", longWay(1).first(1, 0), 2);
-        due("34 in 201 days", longWay(0).first(1, 0), NONE);
-        due("34 long before", longWay(0).first(0, 2), 2);
+        due("34 in 200 days", Lands.longWay(1).first(1, 0), 2);
+        due("34 in 201 days", Lands.longWay(0).first(1, 0), NONE);
+        due("34 long before", Lands.longWay(0).first(0, 2), 2);
     }
 
     private static void wayOfADay() {
         // Two ways of the same length: the letter goes by the lesser village.
-        DownhillPost x = heights(9, 5, 5, 0);
+        DownhillPost x = Lands.heights(9, 5, 5, 0);
         x.road(0, 2, 1);
         x.road(0, 1, 1);
         x.road(2, 3, 1);
@@ -756,7 +696,7 @@ public final class PromisesTest {
         due("day: the least village", x.next(0), 1);
         x.slide(1, 9);
         due("day: what a slide changes", x.next(0), 2);
-        DownhillPost by0 = heights(5, 9, 5, 0);
+        DownhillPost by0 = Lands.heights(5, 9, 5, 0);
         by0.road(1, 2, 1);
         by0.road(1, 0, 1);
         by0.road(2, 3, 1);
@@ -764,7 +704,7 @@ public final class PromisesTest {
         by0.send(LETTER, 1, 3);
         due("day: 0 is the least", by0.next(0), 0);
         // On the level a feather goes for a walk while it waits, as it comes by that just as early.
-        DownhillPost level = heights(0, 0, 9);
+        DownhillPost level = Lands.heights(0, 0, 9);
         level.road(0, 1, 1);
         level.day(3);
         level.send(FEATHER, 0, 2);
@@ -774,7 +714,7 @@ public final class PromisesTest {
         level.day(7);
         due("day: the balloon", level.next(0), 2);
         // A slide under way doesn't hold a letter, but the rest of its way is another one.
-        DownhillPost slid = land();
+        DownhillPost slid = Lands.five();
         slid.send(LETTER, 0, 4);
         slid.days(3);
         slid.slide(3, 0);
@@ -784,7 +724,7 @@ public final class PromisesTest {
         due("day: 3 is the sea now", slid.sea(), 3);
         due("day: and it must wait", slid.next(0), -1);
         // Balloon and all: down to 4, up on 7, down from 0 by the short road into 3.
-        DownhillPost balloon = balloonRather();
+        DownhillPost balloon = Lands.balloonRather();
         balloon.send(LETTER, 1, 2);
         due("day: down first", balloon.next(0), 3);
         balloon.days(1);
@@ -827,8 +767,8 @@ public final class PromisesTest {
     private static void promise37() {
         DownhillPost x = new DownhillPost();
         due("37 empty", x.text(), -1);
-        due("37 blanks", text(x, "   "), -4);
-        due("37", text(x, "village 900 hermit;village 5;road 0 to 1 days 3;every 4;slide 1 6;bill 1 to 0"), 6);
+        due("37 blanks", Lands.text(x, "   "), -4);
+        due("37", Lands.text(x, "village 900 hermit;village 5;road 0 to 1 days 3;every 4;slide 1 6;bill 1 to 0"), 6);
         due("37 the tape is empty", x.count(3), 0);
         due("37 hermit's", x.villageOf(0, 1), 1);
         due("37 no hermit's", x.villageOf(1, 1), 0);
@@ -839,10 +779,10 @@ public final class PromisesTest {
         due("37 lies", x.of(0, 1), 1);
         due("37 to", x.of(0, 2), 0);
         x.day(12);
-        due("37 to what there is", text(x, "village 3;secret 2 to 2"), 2);
+        due("37 to what there is", Lands.text(x, "village 3;secret 2 to 2"), 2);
         due("37 sent", x.of(1, 3), 12);
         due("37 villages", x.count(0), 3);
-        due("37 fault", text(x, "village 4;every 9;slide 3 0;village 5 5"), -39);
+        due("37 fault", Lands.text(x, "village 4;every 9;slide 3 0;village 5 5"), -39);
         due("37 nothing changes", x.count(0), 3);
         due("37 nor every", x.now(1), 4);
         due("37 but the tape", x.count(3), 0);
@@ -851,14 +791,14 @@ public final class PromisesTest {
 
     private static void textItems() {
         DownhillPost x = new DownhillPost();
-        due("text close", text(x, "village1;village02hermit;road0to1;letter0to0"), 4);
+        due("text close", Lands.text(x, "village1;village02hermit;road0to1;letter0to0"), 4);
         due("text 1 day without", x.roadOf(0, 2), 1);
-        due("text wide", text(x, "  every   00000099  ;  slide  0  0009999 "), 2);
+        due("text wide", Lands.text(x, "  every   00000099  ;  slide  0  0009999 "), 2);
         due("text every", x.now(1), 99);
         due("text slid", x.villageOf(0, 0), 9999);
         String[] names = {"letter", "quick", "heavy", "feather", "bill", "secret"};
         for (int kind = 0; kind < 6; kind++) {
-            due("text kind", text(x, names[kind] + " 1 to 0"), 1);
+            due("text kind", Lands.text(x, names[kind] + " 1 to 0"), 1);
             due("text kind is", x.of(kind + 1, 0), kind);
         }
     }
@@ -891,34 +831,34 @@ public final class PromisesTest {
         };
         due("text faults", texts.length, places.length);
         for (int i = 0; i < texts.length && i < places.length; i++) {
-            DownhillPost x = heights(5, 4, 3);
+            DownhillPost x = Lands.heights(5, 4, 3);
             x.road(0, 1, 1);
-            due("text '" + texts[i] + "'", text(x, texts[i]), -1 - places[i]);
+            due("text '" + texts[i] + "'", Lands.text(x, texts[i]), -1 - places[i]);
             due("text as it was", 100 * x.count(0) + 10 * x.count(1) + x.count(2) + x.now(1), 317);
         }
     }
 
     private static void textRoom() {
-        DownhillPost x = heights(1, 2, 3, 4, 5, 6, 7, 8, 9, 10, 11);
-        due("text 12th", text(x, "village 12"), 1);
-        due("text 13th", text(x, "every 5; village x"), -10);
+        DownhillPost x = Lands.heights(1, 2, 3, 4, 5, 6, 7, 8, 9, 10, 11);
+        due("text 12th", Lands.text(x, "village 12"), 1);
+        due("text 13th", Lands.text(x, "every 5; village x"), -10);
         for (int one = 0; one < 12; one++) {
             for (int other = one + 1; other < 12 && x.count(1) < 23; other++) {
                 x.road(one, other, 1);
             }
         }
-        due("text 25th", text(x, "road 10 to 11;road 9 to 11"), -15);
-        due("text 24th", text(x, "road 10 to 11"), 1);
+        due("text 25th", Lands.text(x, "road 10 to 11;road 9 to 11"), -15);
+        due("text 24th", Lands.text(x, "road 10 to 11"), 1);
         for (int i = 0; i < 9; i++) {
             x.send(LETTER, 0, 1);
         }
-        due("text 11th", text(x, "bill 0 to 1; feather 0 to 1"), -14);
-        due("text 10th", text(x, "bill 0 to 1"), 1);
-        due("text there by then", text(heights(), "village 1;road 0 to 1;village 2"), -21);
-        due("text there by then", text(heights(), "village 1;village 2;road 0 to 1"), 3);
-        DownhillPost full = heights();
-        due("text of 120 bytes", text(full, "village 1" + ";every 5".repeat(13) + "; every"), -121);
-        due("text of 120 bytes", text(full, "village 1" + ";every 5".repeat(13) + "       "), 14);
+        due("text 11th", Lands.text(x, "bill 0 to 1; feather 0 to 1"), -14);
+        due("text 10th", Lands.text(x, "bill 0 to 1"), 1);
+        due("text there by then", Lands.text(Lands.heights(), "village 1;road 0 to 1;village 2"), -21);
+        due("text there by then", Lands.text(Lands.heights(), "village 1;village 2;road 0 to 1"), 3);
+        DownhillPost full = Lands.heights();
+        due("text of 120 bytes", Lands.text(full, "village 1" + ";every 5".repeat(13) + "; every"), -121);
+        due("text of 120 bytes", Lands.text(full, "village 1" + ";every 5".repeat(13) + "       "), 14);
     }
 
     private static void promise38() {
@@ -1004,7 +944,7 @@ public final class PromisesTest {
     }
 
     private static void promise41() {
-        DownhillPost x = heights(1, 2, 3, 4);
+        DownhillPost x = Lands.heights(1, 2, 3, 4);
         x.sheet(0, 64, 6);
         long[] numbers = {9999, 10000, -1, 0, 7, 7};
         for (int i = 0; i < 6; i++) {
@@ -1026,7 +966,7 @@ public final class PromisesTest {
     }
 
     private static void promise42() {
-        DownhillPost x = land();
+        DownhillPost x = Lands.five();
         x.sheet(0, 8, 7);
         x.write(0, 5, 77);
         due("42", x.table(0, LETTER, 3), 5);
@@ -1039,7 +979,7 @@ public final class PromisesTest {
         due("42 is", x.write(1, 1, 0), 11);
         x.sheet(1, 64, 0);
         due("42 of 0", x.table(1, LETTER, 3), 0);
-        DownhillPost far = longWay(0);
+        DownhillPost far = Lands.longWay(0);
         far.sheet(0, 8, 1);
         far.table(0, HEAVY, 1);
         due("42 lowest bits", far.write(0, 0, 0), (byte) 201);
@@ -1051,7 +991,7 @@ public final class PromisesTest {
     }
 
     private static void promise43() {
-        DownhillPost x = land();
+        DownhillPost x = Lands.five();
         x.sheet(0, 64, 4);
         int[] way = {0, 1, 2, 3};
         for (int i = 0; i < 4; i++) {
@@ -1084,7 +1024,7 @@ public final class PromisesTest {
     }
 
     private static void promise44to46() {
-        DownhillPost x = land();
+        DownhillPost x = Lands.five();
         x.send(LETTER, 0, 3);
         x.days(2);
         x.feed(65, 1);
@@ -1136,7 +1076,7 @@ public final class PromisesTest {
     }
 
     private static void promise47() {
-        DownhillPost x = land();
+        DownhillPost x = Lands.five();
         x.send(LETTER, 0, 3);
         x.feed(0, 3);
         due("47 villages", x.count(0), 5);
@@ -1149,7 +1089,7 @@ public final class PromisesTest {
     }
 
     private static void promise48() {
-        DownhillPost x = heights(1, 2, 3, 4, 5, 6, 7, 8, 9, 10, 11, 12);
+        DownhillPost x = Lands.heights(1, 2, 3, 4, 5, 6, 7, 8, 9, 10, 11, 12);
         x.village(1);
         x.village(-1);
         x.village(-1);

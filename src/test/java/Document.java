@@ -1,0 +1,47 @@
+import java.io.IOException;
+import java.nio.file.Files;
+import java.nio.file.Path;
+import java.util.ArrayList;
+import java.util.List;
+
+/** The document's sentences, each behind the head under which it stands. */
+final class Document {
+    private Document() {
+    }
+
+    static String told(String head, String sentence) {
+        return head + " | " + sentence;
+    }
+
+    /** Those that tell what must hold: not the first words, the listing of the face, or what isn't promised. */
+    static List<String> sentences(Path file) throws IOException {
+        List<String> all = new ArrayList<>();
+        String head = "";
+        boolean listing = false;
+        for (String line : Files.readAllLines(file)) {
+            if (line.startsWith("#")) {
+                head = line.replaceAll("^#+ |:.*", "");
+            } else if (line.startsWith("```")) {
+                listing = line.equals("```java");
+            } else if (!listing && !line.isBlank()) {
+                ofLine(head, line, all);
+            }
+        }
+        return all;
+    }
+
+    private static void ofLine(String head, String line, List<String> all) {
+        String bare = line.strip().replaceFirst("^\\d+\\. ", "").replaceFirst("^`[^`]*`: ", "");
+        for (String sentence : bare.split("(?:(?<=[^.]\\.)|(?<=\\.\\))) (?=[A-Z(])")) {
+            if (binds(head, sentence)) {
+                all.add(told(head, sentence));
+            }
+        }
+    }
+
+    private static boolean binds(String head, String sentence) {
+        return head.startsWith("Promise ")
+            || head.equals("Terms") && !sentence.startsWith("Ahead of the calls")
+            || head.equals("What it is") && !sentence.startsWith("Only downhill");
+    }
+}
