@@ -3,8 +3,12 @@ import java.nio.file.Files;
 import java.nio.file.Path;
 import java.util.ArrayList;
 import java.util.List;
+import java.util.Set;
+import java.util.TreeSet;
+import java.util.regex.Matcher;
+import java.util.regex.Pattern;
 
-/** The document's sentences, each behind the head under which it stands. */
+/** The document's sentences, each behind the head under which it stands, and the face that it lists. */
 final class Document {
     private Document() {
     }
@@ -25,6 +29,19 @@ final class Document {
                 listing = line.equals("```java");
             } else if (!listing && !line.isBlank()) {
                 ofLine(head, line, all);
+            }
+        }
+        return all;
+    }
+
+    /** The methods of the face, without the names of what they take: long write(int,int,long). */
+    static Set<String> face(Path file) throws IOException {
+        Set<String> all = new TreeSet<>();
+        Pattern method = Pattern.compile("    public (\\w+ \\w+\\()([^)]*)\\);");
+        for (String line : Files.readAllLines(file)) {
+            Matcher found = method.matcher(line);
+            if (found.matches()) {
+                all.add(found.group(1) + found.group(2).replaceAll("(\\w+) \\w+", "$1").replace(" ", "") + ")");
             }
         }
         return all;

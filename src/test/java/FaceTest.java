@@ -14,60 +14,10 @@ import java.util.regex.Pattern;
 
 /** The public face, and those rules of LANGUAGE.md that can be seen from the class or its text. */
 public final class FaceTest {
-    private static final String FACE = """
-        int village(int)
-        int villageOf(int,int)
-        int slide(int,int)
-        int hermit(int,boolean)
-        int road(int,int,int)
-        int roadOf(int,int)
-        int every(int)
-        int sea()
-        int peak()
-        int needs(int,int)
-        int goes(int,int,boolean)
-        int least(int,int,int)
-        int reach(int,int)
-        int whence(int,int)
-        int below(int,int)
-        int round(int,int,int)
-        int live(int,int)
-        int quiet(int)
-        int kind(int,int)
-        int rise(int,int,int)
-        int fall(int,int,int)
-        int dig(int,int)
-        int send(int,int,int)
-        int of(int,int)
-        int turn(int,int)
-        int as(int,int)
-        int next(int)
-        int days(int)
-        int day(int)
-        int now(int)
-        int on(int,int)
-        int when(int)
-        int first(int,int)
-        int feed(int,int)
-        int wipe()
-        int text()
-        int sheet(int,int,int)
-        long write(int,int,long)
-        int copy(int,int,int,int,int)
-        int lays(int)
-        int table(int,int,int)
-        int read(int,int)
-        int image()
-        int undo()
-        int tear()
-        int count(int)
-        int status(int)
-        """;
-
     private static final Due DUE = new Due();
 
     public static void main(String[] args) throws IOException {
-        face();
+        face(Document.face(Path.of("../shared/DOC.md")));
         hidden();
         inside();
         text(Files.readString(Path.of("src/main/java/DownhillPost.java")));
@@ -83,13 +33,12 @@ public final class FaceTest {
         return told.append(')').toString();
     }
 
-    private static void face() {
+    private static void face(Set<String> want) {
         Class<?> face = DownhillPost.class;
         DUE.holds("the class is public and final", face.getModifiers() == (Modifier.PUBLIC | Modifier.FINAL));
         Constructor<?>[] made = face.getDeclaredConstructors();
         DUE.holds("one public constructor without arguments",
             made.length == 1 && Modifier.isPublic(made[0].getModifiers()) && made[0].getParameterCount() == 0);
-        Set<String> want = new TreeSet<>(List.of(FACE.strip().split("\n")));
         Set<String> got = new TreeSet<>();
         for (Method method : face.getDeclaredMethods()) {
             if (!Modifier.isPrivate(method.getModifiers())) {
@@ -98,14 +47,19 @@ public final class FaceTest {
             }
         }
         DUE.due("methods of the face", want.size(), 47);
-        DUE.holds("the face is " + got, got.equals(want));
+        DUE.holds("the face is " + got + ", due is " + want, got.equals(want));
     }
 
-    private static void hidden() {
+    private static Set<String> openNames() {
         Set<String> open = new HashSet<>();
         for (Method method : DownhillPost.class.getMethods()) {
             open.add(method.getName());
         }
+        return open;
+    }
+
+    private static void hidden() {
+        Set<String> open = openNames();
         for (Method method : DownhillPost.class.getDeclaredMethods()) {
             if (Modifier.isPrivate(method.getModifiers())) {
                 DUE.holds(method + " bears a public one's name", !open.contains(method.getName()));
@@ -128,6 +82,7 @@ public final class FaceTest {
     private static void inside() {
         Class<?>[] classes = DownhillPost.class.getDeclaredClasses();
         DUE.holds("too many classes", classes.length <= 11);
+        Set<String> open = openNames();
         for (Class<?> one : classes) {
             DUE.holds(one + " is static and not open", Modifier.isStatic(one.getModifiers())
                 && !Modifier.isPublic(one.getModifiers()) && !Modifier.isProtected(one.getModifiers()));
@@ -139,6 +94,7 @@ public final class FaceTest {
             DUE.holds(one + " has too many fields", fields <= 20);
             for (Method method : one.getDeclaredMethods()) {
                 DUE.holds(method + " takes too much", method.getParameterCount() <= 7);
+                DUE.holds(method + " bears a public one's name", !open.contains(method.getName()));
             }
         }
     }
